@@ -1,11 +1,21 @@
 /** Counts the answers that are not as due; each test has one and ends with it. */
 final class Check {
     private int wrong;
+    private String sentence = "";
+
+    /** The sentence of the document that the next answers are for. */
+    void about(String words) {
+        sentence = words;
+    }
+
+    private void report(String answer) {
+        wrong++;
+        System.out.println(sentence.isEmpty() ? answer : "\"" + sentence + "\": " + answer);
+    }
 
     void same(String what, long got, long due) {
         if (got != due) {
-            wrong++;
-            System.out.println(what + " answered " + got + ", due is " + due);
+            report(what + " answered " + got + ", due is " + due);
         }
     }
 
@@ -25,8 +35,7 @@ final class Check {
             got = e.getClass();
         }
         if (got != due) {
-            wrong++;
-            System.out.println(what + " threw " + got + ", due is " + due);
+            report(what + " threw " + got + ", due is " + due);
         }
     }
 
