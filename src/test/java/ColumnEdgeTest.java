@@ -22,6 +22,7 @@ public final class ColumnEdgeTest {
         columnTestedLast();
         rowsBecomeTables();
         manyColumns();
+        tablesApart();
         CHECK.end();
     }
 
@@ -63,7 +64,8 @@ public final class ColumnEdgeTest {
     }
 
     private static void between() {
-        Sheet s = rowOf("otherwise LEAST + (MOST - LEAST) * (W - a) / (b - a)", "words 5 letters 1", "words 9 letters 2");
+        Sheet s = rowOf("otherwise LEAST + (MOST - LEAST) * (W - a) / (b - a)", "words 5 letters 1",
+                "words 9 letters 2");
         // 1 .. 9 and 2 .. 26: a quarter of what is above LEAST goes to the first
         columnsAt(s, 3, 1, 2);
         columnsAt(s, 7, 2, 5);
@@ -90,7 +92,8 @@ public final class ColumnEdgeTest {
     }
 
     private static void whatIsLeftSkipsFullOnes() {
-        Sheet s = rowOf("goes, 1 each, to the first ones that are below MOST", "words 1 letters 5", "", "words 4", "words 4");
+        Sheet s = rowOf("goes, 1 each, to the first ones that are below MOST", "words 1 letters 5", "", "words 4",
+                "words 4");
         columnsAt(s, 8, 5, 0, 2, 1);
         columnsAt(s, 9, 5, 0, 2, 2);
         columnsAt(s, 18, 5, 0, 7, 6);
@@ -140,13 +143,15 @@ public final class ColumnEdgeTest {
     }
 
     private static void freeOnesHaveNoColumn() {
-        Sheet s = rowOf("column k are the k-th CELLS of all ROWS", "free 1 words 9", "words 1 letters 3", "free 1 width 5",
-                "words 1 letters 4");
+        Sheet s = rowOf("column k are the k-th CELLS of all ROWS", "free 1 words 9", "words 1 letters 3",
+                "free 1 width 5", "words 1 letters 4");
         int freeRow = s.make(1, "block free 1");
         s.make(freeRow, "block words 1 letters 20");
         columnsAt(s, 100, 3, 4);
         s.place(4, 0, 0);
         s.place(6, 3, 0);
+        s.width(4, 3);
+        s.width(6, 4);
         s.change(3, "free 0");
         columnsAt(s, 100, 17, 3, 4);
         s.change(freeRow, "free 0");
@@ -168,7 +173,8 @@ public final class ColumnEdgeTest {
     }
 
     private static void asItWasLaidOut() {
-        Sheet s = rowOf("The width of column k of a table as it was laid out", "words 3 letters 5", "words 2 letters 4");
+        Sheet s = rowOf("The width of column k of a table as it was laid out", "words 3 letters 5",
+                "words 2 letters 4");
         s.page.layout(26, 0);
         s.columns(1, 17, 9);
         s.page.layout(9, 0);
@@ -260,6 +266,26 @@ public final class ColumnEdgeTest {
         s.change(box, "free 0");
         s.refused("a ROW again", Sheet.NO_SUPPORT, () -> s.page.column(box, 0));
         s.refused("its CELL, a TABLE", Sheet.NO_STATE, () -> s.page.column(inside, 0));
+    }
+
+    private static void tablesApart() {
+        Sheet s = sheet("A TABLE of width W: .. its columns");
+        int first = s.make(0, "table width 10");
+        int firstRow = s.make(first, "block");
+        int second = s.make(0, "table width 9");
+        int secondRow = s.make(second, "block");
+        for (int k = 0; k < 2; k++) {
+            s.make(firstRow, "block words 5 letters 2");
+            s.make(secondRow, "block words 3 letters 3");
+        }
+        int third = s.make(0, "table width 2");
+        s.make(s.make(third, "block"), "block words 4");
+        for (int round = 0; round < 2; round++) {
+            s.page.layout(0, 0);
+            s.columns(first, 5, 5);
+            s.columns(second, 5, 4);
+            s.columns(third, 2);
+        }
     }
 
     private static void manyColumns() {

@@ -10,7 +10,9 @@ public final class FlexEdgeTest {
         growsTheFirstByWhatIsLeft();
         growsByOne();
         growsOnlyThoseInFlow();
+        shrinksOnlyThoseInFlow();
         shrinkZeroKeepsItsBasis();
+        basisOneIsOpen();
         basisZeroKeepsIt();
         losesByWeight();
         losesOne();
@@ -18,6 +20,7 @@ public final class FlexEdgeTest {
         belowTheLesserCore();
         belowNothing();
         lesserCoreNotLeast();
+        lesserCoreOfChildren();
         noMoreThanTheBasis();
         againAndAgain();
         noneIsOpen();
@@ -63,7 +66,8 @@ public final class FlexEdgeTest {
     }
 
     private static void noSpaceLeft() {
-        Sheet s = flexOf("If f > 0 and some have GROW .. If f < 0", 50, "width 16 grow 9 margin 2", "width 30 shrink 9");
+        Sheet s = flexOf("If f > 0 and some have GROW .. If f < 0", 50, "width 16 grow 9 margin 2",
+                "width 30 shrink 9");
         s.widths(2, 16, 30);
     }
 
@@ -103,9 +107,33 @@ public final class FlexEdgeTest {
     }
 
     private static void growsOnlyThoseInFlow() {
-        Sheet s = flexOf("A FLEX of width W gives its children in flow", 100, "width 20 grow 9 free 1", "width 30 grow 1",
-                "width 500 free 1");
-        s.widths(2, 20, 100, 500);
+        String sentence = "A FLEX of width W gives its children in flow";
+        Sheet s = flexOf(sentence, 100, "width 20 grow 9 free 1 padding 3", "width 30 grow 1",
+                "width 500 free 1 grow 9", "width 10 grow 1", "width 9 free 1 grow 9");
+        for (int round = 0; round < 2; round++) {
+            s.widths(2, 26, 60, 500, 40, 9);
+            again(s, 100);
+        }
+        again(s, 101);
+        s.widths(2, 26, 61, 500, 40, 9);
+    }
+
+    private static void shrinksOnlyThoseInFlow() {
+        String sentence = "A FLEX of width W gives its children in flow";
+        Sheet s = flexOf(sentence, 30, "width 20", "width 20", "width 20", "width 20", "width 20");
+        s.widths(2, 6, 6, 6, 6, 6);
+        s.change(2, "free 1");
+        s.change(4, "free 1");
+        for (int round = 0; round < 2; round++) {
+            again(s, 30);
+            s.widths(2, 20, 10, 20, 10, 10);
+        }
+        again(s, 28);
+        // 60 are 32 too much: 10 are lost by each, and one more by the first two
+        s.widths(2, 20, 9, 20, 9, 10);
+        s.change(6, "free 1");
+        again(s, 28);
+        s.widths(2, 20, 14, 20, 14, 20);
     }
 
     private static void shrinkZeroKeepsItsBasis() {
@@ -122,6 +150,13 @@ public final class FlexEdgeTest {
         String sentence = "all with SHRINK * basis > 0 are OPEN, the others keep their bases";
         Sheet s = flexOf(sentence, 10, "width 0 shrink 9 words 1 letters 5", "width 40", "width 0% shrink 9 words 2");
         s.widths(2, 0, 10, 0);
+    }
+
+    private static void basisOneIsOpen() {
+        Sheet s = flexOf("all with SHRINK * basis > 0 are OPEN", 0, "width 1", "width 0");
+        s.widths(2, 0, 0);
+        Sheet two = flexOf("all with SHRINK * basis > 0 are OPEN", 40, "width 40 shrink 0", "width 1", "width 1");
+        two.widths(2, 40, 0, 0);
     }
 
     private static void losesByWeight() {
@@ -170,10 +205,25 @@ public final class FlexEdgeTest {
     }
 
     private static void lesserCoreNotLeast() {
-        Sheet s = flexOf("those that would be below their lesser CORE", 30, "width 50 words 2 letters 7", "words 9 letters 3");
+        Sheet s = flexOf("those that would be below their lesser CORE", 30, "width 50 words 2 letters 7",
+                "words 9 letters 3");
         s.same("least", s.page.least(2), 50);
         // 50 and 35 are 55 too much: 32 and 22 are lost, and one more from the first
         s.widths(2, 17, 13);
+    }
+
+    private static void lesserCoreOfChildren() {
+        for (String sort : new String[] {"block", "flex", "table"}) {
+            Sheet s = sheet("those that would be below their lesser CORE get that");
+            int flex = s.make(0, "flex");
+            int child = s.make(flex, sort + " width 40");
+            s.make(s.make(child, "block"), "block words 2 letters 15");
+            s.same("least", s.page.least(child), 40);
+            for (int[] row : new int[][] {{40, 40}, {39, 39}, {16, 16}, {15, 15}, {14, 15}, {0, 15}}) {
+                s.page.layout(row[0], 0);
+                s.width(child, row[1]);
+            }
+        }
     }
 
     private static void noMoreThanTheBasis() {
@@ -210,8 +260,8 @@ public final class FlexEdgeTest {
     }
 
     private static void takesOneEach() {
-        Sheet s = flexOf("is taken, 1 each, from the first open ones that are above their lesser CORE then; it ends", 28,
-                "width 10 words 1 letters 10", "width 10 words 1 letters 10", "width 10");
+        String sentence = "is taken, 1 each, from the first open ones that are above their lesser CORE then; it ends";
+        Sheet s = flexOf(sentence, 28, "width 10 words 1 letters 10", "width 10 words 1 letters 10", "width 10");
         s.widths(2, 10, 10, 9);
         s.change(4, "words 1 letters 10");
         s.page.layout(0, 0);

@@ -237,9 +237,14 @@ public final class HeightEdgeTest {
 
     private static void flexHeight() {
         Sheet s = sheet("Of a FLEX: the greatest room.");
-        int flex = s.make(0, "flex");
+        int flex = s.make(0, "flex words 9");
+        s.make(flex, "block free 1 height 90");
+        int empty = s.make(flex, "block");
+        s.layout(100, 0, 0);
+        s.make(flex, "block free 1 height 90");
         s.make(flex, "block width 5 height 10 margin 4");
         s.layout(100, 0, 18);
+        s.height(empty, 18);
         int padded = s.make(flex, "block width 5 height 12 padding 3");
         s.layout(100, 0, 18);
         s.change(padded, "padding 4");
@@ -307,11 +312,14 @@ public final class HeightEdgeTest {
     private static void notStretched() {
         Sheet s = sheet("each child in flow of HEIGHT AUTO");
         int flex = s.make(0, "flex height 40");
+        int freeFirst = s.make(flex, "block free 1 words 1");
         int nothing = s.make(flex, "block height 0 words 1");
         int size = s.make(flex, "block height 90");
         int part = s.make(flex, "block height 50%");
         int free = s.make(flex, "block free 1 words 1");
+        s.make(flex, "block");
         s.page.layout(100, 0);
+        s.height(freeFirst, 10);
         s.height(nothing, 0);
         s.height(size, 90);
         s.height(part, 20);

@@ -9,6 +9,7 @@ public final class LeastMostEdgeTest {
         ofWords();
         onlyFreeChildren();
         wordsBesideChildren();
+        freeOnesBetween();
         ownPaddingAndMargin();
         ofABlock();
         ofAFlex();
@@ -18,6 +19,7 @@ public final class LeastMostEdgeTest {
         unequalRows();
         cellFrames();
         asItIsNow();
+        asItIsNowOfATable();
         asksOnly();
         noSuchBox();
         CHECK.end();
@@ -215,6 +217,44 @@ public final class LeastMostEdgeTest {
         s.sizes(0, 7, 15);
         s.make(child, "block width 3");
         s.sizes(0, 3, 3);
+        s.change(child, "free 1");
+        s.change(0, "words 5 letters 4");
+        s.same("most without least before", s.page.most(0), 24);
+        s.change(0, "letters 5");
+        s.same("least without most before", s.page.least(0), 5);
+    }
+
+    private static void asItIsNowOfATable() {
+        Sheet s = sheet("LEAST (MOST) of a box as it is now.");
+        int table = s.make(0, "table");
+        int cell = s.make(s.make(table, "block"), "block words 9 letters 9 padding 9");
+        s.sizes(table, 27, 107);
+        s.change(cell, "letters 2 padding 0");
+        s.sizes(table, 2, 26);
+        s.change(cell, "words 1 letters 1");
+        s.sizes(table, 1, 1);
+    }
+
+    private static void freeOnesBetween() {
+        Sheet s = sheet("Otherwise they come by its children in flow");
+        for (String sort : new String[] {"block", "flex"}) {
+            int box = s.make(0, sort + " free 1");
+            s.make(box, "block free 1 width 90");
+            s.make(box, "block words 2 letters 3");
+            s.make(box, "block free 1 width 90");
+            s.make(box, "block words 2 letters 4");
+            s.make(box, "block free 1 width 90");
+            s.sizes(box, sort.equals("flex") ? 3 + 4 : 4, sort.equals("flex") ? 7 + 9 : 9);
+        }
+        int table = s.make(0, "table free 1");
+        s.make(s.make(table, "block free 1"), "block width 90");
+        int row = s.make(table, "block");
+        s.make(row, "block free 1 width 90");
+        s.make(row, "block words 2 letters 3");
+        s.make(row, "block free 1 width 90");
+        s.make(row, "block words 2 letters 4");
+        s.sizes(row, 7, 16);
+        s.sizes(table, 7, 16);
     }
 
     private static void asksOnly() {

@@ -282,8 +282,8 @@ public final class TermsEdgeTest {
 
     private static void rowValues() {
         String sentence = "For a ROW, MARGIN, PADDING, WIDTH and HEIGHT count as 0, 0, AUTO and AUTO";
-        String[] changes = {"margin 100", "padding 100", "width 2000", "width 0", "width 50%", "height 2000", "height 0",
-            "height 50%"};
+        String[] changes = {"margin 100", "padding 100", "width 2000", "width 0", "width 50%", "height 2000",
+            "height 0", "height 50%"};
         for (String change : changes) {
             Sheet s = sheet(sentence + " (" + change + ")");
             int table = s.make(0, "table height 300");
