@@ -99,6 +99,8 @@ public final class FlexEdgeTest {
         equal.widths(2, 0, 2, 2, 0, 2);
         again(equal, 7);
         equal.widths(2, 0, 3, 2, 0, 2);
+        Sheet free = flexOf(sentence, 5, "grow 1", "free 1 grow 1", "grow 1", "grow 1");
+        free.widths(2, 2, 0, 2, 1);
     }
 
     private static void growsByOne() {
