@@ -350,7 +350,7 @@ public final class PageLayouter {
         }
 
         int edges() {
-            return 2 * padding() + 2 * margin();
+            return 2 * (padding() + margin());
         }
 
         int frameWidth() {
@@ -362,11 +362,11 @@ public final class PageLayouter {
         }
 
         int roomWidth() {
-            return width + 2 * padding() + 2 * margin();
+            return width + edges();
         }
 
         int roomHeight() {
-            return height + 2 * padding() + 2 * margin();
+            return height + edges();
         }
 
         void moveTo(int left, int top) {
